@@ -310,7 +310,7 @@ public final class SlackMarket {
         }
 
         int endOf(int task) {
-            return has(task) ? ends[task] : 0;
+            return task >= 0 && task < tasks ? ends[task] : 0;
         }
 
         int startOf(int task) {
@@ -325,15 +325,18 @@ public final class SlackMarket {
             return last;
         }
 
+        /** Puts a task at the end of a row; it has no end yet, until schedule is called. */
         void append(int machine, int duration, int ahead) {
             int task = tasks;
+            if (task >= MAX_TASKS) {
+                return;
+            }
             machineOf[task] = machine;
             durationOf[task] = duration;
             aheadOf[task] = ahead;
             rows[machine * MAX_TASKS + rowLength[machine]] = task;
             rowLength[machine]++;
             tasks++;
-            schedule();
         }
 
         /** Brings a task to a place of its row; the ends are as before until schedule is called. */
@@ -436,14 +439,11 @@ public final class SlackMarket {
 
         private void linkFrom(int task) {
             for (int other = 0; other < tasks; other++) {
-                if (links[other] == NONE && areLinked(task, other)) {
+                boolean linked = machineOf[task] == machineOf[other] || aheadOf[task] == other || aheadOf[other] == task;
+                if (linked && links[other] == NONE) {
                     links[other] = links[task] + 1;
                 }
             }
-        }
-
-        private boolean areLinked(int task, int other) {
-            return machineOf[task] == machineOf[other] || aheadOf[task] == other || aheadOf[other] == task;
         }
     }
 
@@ -609,6 +609,7 @@ public final class SlackMarket {
             offered[task] = 0;
             prices[task] = 0;
             plan.append(machine, duration, ahead);
+            plan.schedule();
             return task;
         }
 
@@ -716,11 +717,11 @@ public final class SlackMarket {
             return latest;
         }
 
-        /** One task buys from the offers in its reach; nothing, if it is not late. */
+        /** One task buys from the offers in its reach, as long as it is late. */
         void buyFor(int buyer) {
             plan.measureFrom(buyer);
             int asked = 1 << buyer;
-            for (int turn = 0; turn < plan.tasks; turn++) {
+            for (int turn = 0; turn < plan.tasks && lateOf(buyer) > 0; turn++) {
                 int seller = bestSellerExcept(asked);
                 if (seller == NONE) {
                     break;

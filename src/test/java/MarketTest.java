@@ -16,6 +16,9 @@ final class MarketTest {
         refunds();
         refundErrors();
         refundRemoves();
+        refundRemovesOfMany();
+        refundOf500();
+        lateByOneHour();
         gives();
         Check.end();
     }
@@ -256,6 +259,69 @@ final class MarketTest {
         contract(x, 1, 0, 1, 3, 30);
         Check.is("contracts", x.count(1), 2);
         Check.is("no contract 2", x.refund(2, 1), NO_SUCH);
+    }
+
+    private static void refundRemovesOfMany() {
+        SlackMarket x = new SlackMarket();
+        x.task(0, 1, 0, 50, NONE);
+        x.task(0, 1, 0, 50, NONE);
+        x.task(0, 1, 0, 50, NONE);
+        x.task(1, 1, 100, 50, 0);
+        x.task(1, 1, 100, 50, 0);
+        x.offer(3, 1, 3);
+        x.offer(4, 5, 4);
+        Check.is("contracts", x.trade(), 4);
+        contract(x, 0, 3, 2, 1, 3);
+        contract(x, 1, 4, 2, 2, 4);
+        contract(x, 2, 4, 1, 2, 4);
+        contract(x, 3, 4, 0, 1, 4);
+        x.move(2, 0);
+        Check.is("refund", x.refund(0, 1), 0);
+        contract(x, 0, 4, 2, 2, 4);
+        contract(x, 1, 4, 1, 2, 4);
+        contract(x, 2, 4, 0, 1, 4);
+        Check.is("contracts", x.count(1), 3);
+        Check.is("refund", x.refund(0, 1), 1);
+        contract(x, 0, 4, 2, 1, 4);
+        Check.is("contracts", x.count(1), 3);
+    }
+
+    private static void refundOf500() {
+        SlackMarket x = new SlackMarket();
+        x.task(0, 1, 3000, 0, NONE);
+        for (int i = 1; i < 7; i++) {
+            x.task(0, 100, i == 6 ? 0 : 3000, 100000, NONE);
+        }
+        x.offer(0, 500, 100);
+        x.trade();
+        contract(x, 0, 0, 6, 500, 100);
+        x.offer(0, 101, 0);
+        x.trade();
+        x.move(6, 0);
+        Check.is("501", x.refund(0, 501), BAD_VALUE);
+        Check.is("500", x.refund(0, 500), 0);
+        Check.is("half of 50000", x.money(0), 25000);
+        Check.is("due", x.due(6), 101);
+        contract(x, 0, 0, 6, 101, 0);
+    }
+
+    private static void lateByOneHour() {
+        SlackMarket x = new SlackMarket();
+        x.task(0, 10, 9, 1, NONE);
+        x.task(0, 10, 100, 0, NONE);
+        Check.is("late", x.count(3), 1);
+        Check.is("late together", x.count(4), 1);
+        x.offer(1, 1, 1);
+        Check.is("offers", x.count(2), 1);
+        Check.is("trade", x.trade(), 1);
+        contract(x, 0, 1, 0, 1, 1);
+        Check.is("money", x.money(0), 0);
+        x.duration(0, 15);
+        x.offer(1, 9, 1);
+        Check.is("no money for an hour at 1", x.trade(), 0);
+        x.give(1, 0, 1);
+        Check.is("money for one at 1", x.trade(), 1);
+        Check.is("late yet", x.count(4), 4);
     }
 
     private static void gives() {

@@ -14,6 +14,7 @@ final class TasksTest {
         durations();
         moves();
         movesThatWait();
+        movesInAFullRow();
         Check.end();
     }
 
@@ -210,5 +211,24 @@ final class TasksTest {
         Check.is("end 3", x.ofTask(3, 5), 6);
         Check.is("end 1", x.ofTask(1, 5), 10);
         Check.is("end 2", x.ofTask(2, 5), 15);
+    }
+
+    private static void movesInAFullRow() {
+        SlackMarket x = new SlackMarket();
+        for (int i = 0; i < 24; i++) {
+            x.task(3, i + 1, 300, 0, NONE);
+        }
+        Check.is("to the end", x.move(0, 23), 0);
+        Check.is("the end", x.at(3, 23), 0);
+        Check.is("the one before", x.at(3, 22), 23);
+        Check.is("behind the end", x.at(3, 24), NONE);
+        Check.is("place 24", x.move(0, 24), NO_SUCH);
+        Check.is("end of all", x.ofTask(0, 5), 300);
+        Check.is("to the front", x.move(0, 0), 23);
+        Check.is("the front", x.at(3, 0), 0);
+        Check.is("the end", x.at(3, 23), 23);
+        Check.is("best place", x.bestPlace(23), 0);
+        Check.is("nobody waits for the last", x.ofTask(23, 13), 0);
+        Check.is("chain of all", x.critical(), (1 << 24) - 1);
     }
 }

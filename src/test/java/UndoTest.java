@@ -6,6 +6,9 @@ final class UndoTest {
         undoes();
         sixStates();
         undoOfEachChange();
+        changesInTwos();
+        undoOfContracts();
+        chainsBehindUndo();
         errorsRecordNothing();
         saves();
         restores();
@@ -90,6 +93,117 @@ final class UndoTest {
         Check.is("hours of the contract", x.ofContract(0, 2), 5);
         Check.is("due", x.due(1), 20);
         Check.is("money", x.money(0), 65);
+    }
+
+    /** Each change is made twice and undone once, so that what is told belongs to the first of them. */
+    private static void changesInTwos() {
+        SlackMarket x = new SlackMarket();
+        x.task(0, 10, 100, 50, NONE);
+        x.task(0, 10, 0, 50, NONE);
+        x.duration(0, 20);
+        x.duration(0, 30);
+        x.undo();
+        Check.is("duration", x.ofTask(0, 1), 20);
+        x.move(0, 1);
+        x.move(0, 0);
+        x.undo();
+        Check.is("row", x.at(0, 0), 1);
+        x.offer(0, 1, 0);
+        x.offer(0, 2, 0);
+        x.undo();
+        Check.is("offer", x.ofTask(0, 9), 1);
+        x.give(0, 1, 1);
+        x.give(0, 1, 2);
+        x.undo();
+        Check.is("money", x.money(0), 49);
+        x.set(0, 1);
+        x.set(0, 2);
+        x.undo();
+        Check.is("setting", x.count(10), 1);
+        x.offer(0, 4, 0);
+        x.trade();
+        x.offer(0, 1, 0);
+        x.trade();
+        x.undo();
+        Check.is("contracts", x.count(1), 1);
+        x.duration(1, 1);
+        x.refund(0, 2);
+        x.refund(0, 1);
+        x.undo();
+        Check.is("hours of the contract", x.ofContract(0, 2), 2);
+        x.save(0);
+        x.save(1);
+        x.restore(0);
+        x.duration(0, 5);
+        x.restore(1);
+        x.undo();
+        Check.is("duration", x.ofTask(0, 1), 5);
+        Texts.put(x, "d0=6");
+        x.carryOut();
+        Texts.put(x, "d0=7");
+        x.carryOut();
+        x.undo();
+        Check.is("duration", x.ofTask(0, 1), 6);
+    }
+
+    private static void undoOfContracts() {
+        SlackMarket x = new SlackMarket();
+        x.task(0, 1, 0, 50, NONE);
+        x.task(0, 1, 0, 50, NONE);
+        x.task(0, 1, 100, 50, NONE);
+        x.task(0, 1, 100, 50, NONE);
+        x.offer(2, 1, 3);
+        x.offer(3, 5, 4);
+        Check.is("contracts", x.trade(), 3);
+        x.undo();
+        x.move(0, 1);
+        x.offer(2, 2, 9);
+        x.offer(3, 1, 8);
+        Check.is("other contracts", x.trade(), 3);
+        x.save(0);
+        for (int i = 0; i < 4; i++) {
+            x.undo();
+        }
+        x.trade();
+        Check.is("seller", x.ofContract(0, 0), 2);
+        Check.is("buyer", x.ofContract(2, 1), 0);
+        x.restore(0);
+        int[][] due = {{3, 0, 1, 8}, {2, 0, 1, 9}, {2, 1, 1, 9}};
+        for (int contract = 0; contract < 3; contract++) {
+            for (int what = 0; what < 4; what++) {
+                Check.is("contract " + contract + " what " + what, x.ofContract(contract, what), due[contract][what]);
+            }
+        }
+        x.undo();
+        int[][] first = {{2, 1, 1, 3}, {3, 1, 1, 4}, {3, 0, 1, 4}};
+        for (int contract = 0; contract < 3; contract++) {
+            for (int what = 0; what < 4; what++) {
+                Check.is("contract " + contract + " what " + what, x.ofContract(contract, what), first[contract][what]);
+            }
+        }
+    }
+
+    /** Slack and the longest chain go along the tasks in an order that undo has to bring back. */
+    private static void chainsBehindUndo() {
+        SlackMarket x = new SlackMarket();
+        x.task(0, 1, 30, 0, NONE);
+        x.task(0, 2, 20, 0, NONE);
+        x.task(0, 3, 100, 0, NONE);
+        x.move(2, 0);
+        x.move(1, 0);
+        Check.is("slack of 0", x.ofTask(0, 8), 24);
+        Check.is("slack of 1", x.ofTask(1, 8), 18);
+        Check.is("slack of 2", x.ofTask(2, 8), 24);
+        x.undo();
+        Check.is("slack of 0", x.ofTask(0, 8), 14);
+        Check.is("slack of 1", x.ofTask(1, 8), 14);
+        Check.is("slack of 2", x.ofTask(2, 8), 14);
+        Check.is("chain", x.critical(), 7);
+        x.undo();
+        Check.is("slack of 0", x.ofTask(0, 8), 17);
+        Check.is("slack of 1", x.ofTask(1, 8), 17);
+        Check.is("slack of 2", x.ofTask(2, 8), 94);
+        Check.is("chain", x.critical(), 7);
     }
 
     private static void errorsRecordNothing() {

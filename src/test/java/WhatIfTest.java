@@ -181,6 +181,10 @@ final class WhatIfTest {
 
     private static void criticals() {
         SlackMarket x = new SlackMarket();
+        x.task(3, 7, 9, 0, NONE);
+        Check.is("one task", x.critical(), 1);
+        Check.is("its end", x.count(5), 7);
+        x.undo();
         x.task(0, 5, 100, 0, NONE);
         x.task(1, 5, 100, 0, NONE);
         x.task(0, 4, 100, 0, 1);

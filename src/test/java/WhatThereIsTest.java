@@ -55,6 +55,12 @@ final class WhatThereIsTest {
     private static void slack() {
         SlackMarket x = new SlackMarket();
         x.task(0, 5, 100, 0, NONE);
+        Check.is("of one", x.ofTask(0, 8), 95);
+        x.task(0, 5, 30, 0, NONE);
+        Check.is("of the first of two", x.ofTask(0, 8), 20);
+        Check.is("of the last of two", x.ofTask(1, 8), 20);
+        x = new SlackMarket();
+        x.task(0, 5, 100, 0, NONE);
         x.task(0, 5, 30, 0, NONE);
         x.task(1, 8, 8, 0, NONE);
         x.task(1, 6, 22, 0, 0);
