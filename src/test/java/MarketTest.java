@@ -166,6 +166,8 @@ final class MarketTest {
         Check.is("least money", x.leastMoney(1), NONE);
         Check.is("late behind", x.lateBehind(), 70);
         Check.is("the offer stays", x.ofTask(0, 9), 1);
+        Check.is("sold", x.ofTask(0, 11), 40);
+        Check.is("bought", x.ofTask(1, 12), 40);
         x.duration(1, 1);
         Check.is("refund", x.refund(39, 1), 0);
         x.duration(1, 100);

@@ -123,6 +123,9 @@ final class TasksTest {
         Check.is("tasks", x.count(0), 24);
         Check.is("of machine 0", x.count(12), 12);
         Check.is("end of all", x.count(5), 24);
+        Check.is("late together", x.count(4), 12 * 25);
+        Check.is("offers", x.count(2), 0);
+        Check.is("money", x.count(6), 0);
         Check.is("chain of all", x.critical(), (1 << 24) - 1);
         Check.is("late of all", x.count(3), (1 << 24) - 1);
     }
