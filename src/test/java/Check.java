@@ -14,6 +14,14 @@ final class Check {
         }
     }
 
+    static void same(String what, String got, String due) {
+        asked++;
+        if (!got.equals(due)) {
+            wrong++;
+            System.out.println(what + " told\n" + got + "\n, due is\n" + due);
+        }
+    }
+
     static void holds(String what, boolean is) {
         is(what, is ? 1 : 0, 1);
     }
