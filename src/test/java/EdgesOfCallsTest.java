@@ -210,19 +210,23 @@ final class EdgesOfCallsTest {
     }
 
     private static void moveOfAFullRow() {
-        SlackMarket x = new SlackMarket();
-        for (int task = 0; task < 24; task++) {
-            x.task(2, 1, 0, 0, NONE);
-        }
-        Check.is("place 24", x.move(5, 24), NO_SUCH);
-        Check.is("place 23", x.move(0, 23), 0);
-        for (int place = 0; place < 24; place++) {
-            Check.is("at " + place, x.at(2, place), (place + 1) % 24);
-        }
-        Check.is("place 0", x.move(0, 0), 23);
-        for (int place = 0; place < 24; place++) {
-            Check.is("at " + place, x.at(2, place), place);
-            Check.is("start", x.ofTask(place, 4), place);
+        for (int machine = 0; machine < 4; machine++) {
+            SlackMarket x = new SlackMarket();
+            for (int task = 0; task < 24; task++) {
+                x.task(machine, 1, 0, 0, NONE);
+            }
+            Check.is("place 24", x.move(5, 24), NO_SUCH);
+            Check.is("place 23", x.move(0, 23), 0);
+            for (int place = 0; place < 24; place++) {
+                Check.is("at " + place, x.at(machine, place), (place + 1) % 24);
+            }
+            Check.is("place 0", x.move(0, 0), 23);
+            for (int place = 0; place < 24; place++) {
+                Check.is("at " + place, x.at(machine, place), place);
+                Check.is("start", x.ofTask(place, 4), place);
+            }
+            Check.is("behind the row", x.at(machine, 24), NONE);
+            Check.is("best place", x.bestPlace(0), 0);
         }
     }
 

@@ -12,11 +12,14 @@ final class EdgesOfTermsTest {
         neverWaitsForItself();
         lateAndToSpare();
         slackIs0IfAnyIsLate();
+        slackAlongBothWays();
         slackAtMost5000();
         linkedByOneLink();
         longestDistance();
         offerIsGoneWithoutHours();
         lateByMostFirst();
+        theNextOneBuysToo();
+        theNextOneSellsToo();
         asLongAsItIsLate();
         reachIsTheLastDistance();
         cheapestNearestLowest();
@@ -191,6 +194,35 @@ final class EdgesOfTermsTest {
         Check.is("one hour", x.ofTask(2, 8), 1);
     }
 
+    /** "all others following from it": by the row, by what comes ahead, or by both, up to where none would be late. */
+    private static void slackAlongBothWays() {
+        SlackMarket x = new SlackMarket();
+        x.task(0, 10, 100, 0, NONE);
+        x.task(1, 30, 100, 0, NONE);
+        x.task(1, 10, 100, 0, 0);
+        x.task(0, 10, 100, 0, NONE);
+        x.task(2, 10, 100, 0, 3);
+        int[] byTheWayAhead = {70, 60, 60, 70, 70};
+        for (int task = 0; task < 5; task++) {
+            Check.is("slack", x.ofTask(task, 8), byTheWayAhead[task]);
+        }
+        x.duration(3, 60);
+        int[] behind = {20, 60, 60, 20, 20};
+        for (int task = 0; task < 5; task++) {
+            Check.is("slack with a long one behind", x.ofTask(task, 8), behind[task]);
+        }
+        x.duration(3, 80);
+        Check.is("the last one just at its due time", x.ofTask(4, 5), 100);
+        Check.is("none for it", x.ofTask(4, 8), 0);
+        Check.is("none for the first", x.ofTask(0, 8), 0);
+        Check.is("that of the row beside it", x.ofTask(1, 8), 60);
+        x.duration(2, 70);
+        Check.is("none for what has a late follower nearly", x.ofTask(1, 8), 0);
+        x.duration(1, 1);
+        Check.is("it waits for what comes ahead", x.ofTask(2, 4), 10);
+        Check.is("so there is slack for the row", x.ofTask(1, 8), 29);
+    }
+
     /** "(.. 5000 at most.)": task 0 sells early and buys late, twice; what it gets back brings it behind hour 5000. */
     private static void slackAtMost5000() {
         SlackMarket x = new SlackMarket();
@@ -313,6 +345,45 @@ final class EdgesOfTermsTest {
             Check.is("hours", x.ofContract(contract, 2), hours[contract]);
         }
         Check.is("nobody is late", x.count(3), 0);
+    }
+
+    /** "A trade goes through the tasks that are late": one that cannot buy, or not all, keeps no other from it. */
+    private static void theNextOneBuysToo() {
+        SlackMarket x = new SlackMarket();
+        x.task(0, 10, 3000, 0, NONE);
+        x.task(0, 10, 0, 0, NONE);
+        x.task(0, 10, 20, 5, NONE);
+        x.task(0, 10, 35, 100, NONE);
+        x.offer(0, 500, 2);
+        Check.is("all but the one without money", x.trade(), 2);
+        Check.is("the later one", x.ofContract(0, 1), 2);
+        Check.is("as far as its money goes", x.ofContract(0, 2), 2);
+        Check.is("the other one", x.ofContract(1, 1), 3);
+        Check.is("all of it", x.ofContract(1, 2), 5);
+        Check.is("late yet", x.count(3), 2 + 4);
+        Check.is("late together", x.count(4), 20 + 8);
+    }
+
+    /** Offers with nothing to spare are passed by, however cheap they are. */
+    private static void theNextOneSellsToo() {
+        SlackMarket x = new SlackMarket();
+        x.task(0, 10, 10, 0, NONE);
+        x.task(0, 10, 19, 0, NONE);
+        x.task(0, 10, 33, 0, NONE);
+        x.task(0, 10, 0, 100, NONE);
+        x.task(0, 10, 3000, 0, NONE);
+        for (int task = 0; task < 5; task++) {
+            x.offer(task, 4, task);
+        }
+        Check.is("hours", x.wouldBuy(3, 0), 7);
+        Check.is("cost", x.wouldBuy(3, 1), 3 * 2 + 4 * 4);
+        Check.is("sellers", x.wouldBuy(3, 2), 4 + 16);
+        Check.is("one has no money", x.trade(), 2);
+        Check.is("late", x.count(3), 2 + 8);
+        Check.is("the offer is passed by", x.ofTask(0, 9), 4);
+        Check.is("the offer of a late one", x.ofTask(1, 9), 4);
+        Check.is("its own offer", x.ofTask(3, 9), 4);
+        Check.is("the rest of an offer", x.ofTask(2, 9), 1);
     }
 
     /** "Each of them buys, as long as it is late": the second offer is not needed, or for one hour. */
