@@ -16,6 +16,8 @@ public final class SlackMarket {
     private static final int MAX_REACH = 9;
     private static final int MAX_PAD = 80;
     private static final int MAX_HISTORY = 6;
+    // One cell more than states are kept: a change may yet end in an error when its state is copied there.
+    private static final int RING = MAX_HISTORY + 1;
     private static final int SLOTS = 2;
     // Above what the hours by which a task can be late cost at the highest price.
     private static final int MONEY_ENOUGH = 100000000;
@@ -480,19 +482,17 @@ public final class SlackMarket {
             }
         }
 
-        boolean isFull() {
-            return total >= MAX_CONTRACTS;
-        }
-
-        void append(int seller, int buyer, int amount, int price) {
-            if (isFull()) {
-                return;
+        /** Makes a contract, and tells whether there was room for one more. */
+        boolean append(int seller, int buyer, int amount, int price) {
+            if (total >= MAX_CONTRACTS) {
+                return false;
             }
             sellers[total] = seller;
             buyers[total] = buyer;
             hours[total] = amount;
             prices[total] = price;
             total++;
+            return true;
         }
 
         /** Takes hours off a contract, which is gone without hours; answers what it has then. */
@@ -754,18 +754,14 @@ public final class SlackMarket {
         }
 
         private void buyFrom(int seller, int buyer) {
-            if (contracts.isFull()) {
-                return;
-            }
             int price = prices[seller];
             int hours = Math.min(lateOf(buyer), Math.min(offered[seller], spareOf(seller)));
             if (price > 0) {
                 hours = Math.min(hours, moneyOf[buyer] / price);
             }
-            if (hours <= 0) {
+            if (hours <= 0 || !contracts.append(seller, buyer, hours, price)) {
                 return;
             }
-            contracts.append(seller, buyer, hours, price);
             dueOf[seller] -= hours;
             dueOf[buyer] += hours;
             moneyOf[buyer] -= hours * price;
@@ -897,19 +893,19 @@ public final class SlackMarket {
 
     /** The latest states before changes, in a ring with one more cell than states are kept. */
     private static final class History {
-        private final Market[] ring = new Market[MAX_HISTORY + 1];
+        private final Market[] ring = new Market[RING];
         private int first;
         int kept;
 
         History() {
-            for (int i = 0; i < ring.length; i++) {
+            for (int i = 0; i < RING; i++) {
                 ring[i] = new Market();
             }
         }
 
         /** Copies the state ahead of a change; the spare cell takes it, as the change may end in an error. */
         void prepare(Market state) {
-            Market spare = ring[(first + kept) % ring.length];
+            Market spare = ring[(first + kept) % RING];
             if (spare != null) {
                 spare.copyFrom(state);
             }
@@ -923,7 +919,7 @@ public final class SlackMarket {
             if (kept < MAX_HISTORY) {
                 kept++;
             } else {
-                first = (first + 1) % ring.length;
+                first = (first + 1) % RING;
             }
             return answer;
         }
@@ -933,7 +929,7 @@ public final class SlackMarket {
                 return NOT_POSSIBLE;
             }
             kept--;
-            state.copyFrom(ring[(first + kept) % ring.length]);
+            state.copyFrom(ring[(first + kept) % RING]);
             return kept;
         }
     }

@@ -22,6 +22,11 @@ final class Check {
         }
     }
 
+    /** How many answers were checked up to now. */
+    static int asked() {
+        return asked;
+    }
+
     static void holds(String what, boolean is) {
         is(what, is ? 1 : 0, 1);
     }

@@ -1,9 +1,11 @@
 /** Runs of calls, made by a fixed rule, on the program and on the oracle: each answer has to be the same. */
 final class OracleTest {
     private static final int NONE = -6;
-    private static final int RUNS = 240;
+    private static final int RUNS = 500;
+    // What later calls on an object answer is free. Here each call is one answer that is checked.
     private static final int CALLS = 512;
     private static long seed;
+    private static int begun;
 
     public static void main(String[] args) {
         int[] reached = new int[8];
@@ -48,22 +50,24 @@ final class OracleTest {
     private static void run(int run, int[] reached) {
         SlackMarket x = new SlackMarket();
         Oracle y = new Oracle();
-        // Runs differ by how many tasks, how tight and how dear they are, and by what they change.
+        // Runs differ by how many tasks, how tight and how dear they are, and by what they change: a third of them trades.
         int most = 2 + next(23);
         int tight = 10 + next(1 + next(900));
         int dear = 1 + next(1 + next(1000));
         int small = 1 + next(100);
-        for (int call = 0; call < CALLS; call++) {
-            String told = "run " + run + " call " + call + " ";
+        int trading = next(3) == 0 ? 7 : 0;
+        // A text takes some 25 calls; the others are left for a look at all there is.
+        int kept = 40 + next(300);
+        begun = Check.asked();
+        while (left() > kept) {
+            String told = "run " + run + " call " + (CALLS - left()) + " ";
             if (next(100) < 55) {
-                change(told, x, y, new int[] {most, tight, dear, small}, reached);
+                change(told, x, y, new int[] {most, tight, dear, small, trading}, reached);
             } else {
                 ask(told, x, y, reached);
             }
-            if (call % 32 == 31) {
-                compareAll(told, x, y);
-            }
         }
+        lookAround("run " + run + " behind all calls ", x, y);
         reached[1] += y.count(1) == 40 ? 1 : 0;
         reached[7] += y.count(0) == 24 ? 1 : 0;
     }
@@ -83,7 +87,7 @@ final class OracleTest {
         }
         int hours;
         int answer;
-        switch (next(14)) {
+        switch (next(10) < shape[4] ? 5 + next(5) : next(14)) {
             case 0:
                 int setting = next(2);
                 int value = setting == 0 ? within(0, 100) : within(1, 9);
@@ -227,21 +231,36 @@ final class OracleTest {
         }
     }
 
-    private static void compareAll(String told, SlackMarket x, Oracle y) {
-        for (int what = 0; what < 16; what++) {
-            Check.is(told + "count " + what, x.count(what), y.count(what));
+    private static int left() {
+        return CALLS - (Check.asked() - begun);
+    }
+
+    /** Looks at one thing after the other, up to the last call; where it begins is another one in each run. */
+    private static void lookAround(String told, SlackMarket x, Oracle y) {
+        int all = 16 + 16 * y.count(0) + 4 * y.count(1);
+        int first = next(all);
+        for (int i = 0; i < all && left() > 0; i++) {
+            look(told, x, y, (first + i) % all);
         }
-        for (int task = 0; task < y.count(0); task++) {
-            for (int what = 0; what < 14; what++) {
-                Check.is(told + "ofTask " + task + " " + what, x.ofTask(task, what), y.ofTask(task, what));
-            }
-            Check.is(told + "due", x.due(task), y.due(task));
-            Check.is(told + "money", x.money(task), y.money(task));
-        }
-        for (int contract = 0; contract < y.count(1); contract++) {
-            for (int what = 0; what < 4; what++) {
-                Check.is(told + "ofContract", x.ofContract(contract, what), y.ofContract(contract, what));
-            }
+        Check.holds("no more calls than an object is used for", left() >= 0);
+    }
+
+    private static void look(String told, SlackMarket x, Oracle y, int number) {
+        int ofTasks = number - 16;
+        int ofContracts = ofTasks - 16 * y.count(0);
+        if (number < 16) {
+            Check.is(told + "count " + number, x.count(number), y.count(number));
+        } else if (ofContracts >= 0) {
+            int contract = ofContracts / 4;
+            int what = ofContracts % 4;
+            Check.is(told + "ofContract " + contract + " " + what, x.ofContract(contract, what), y.ofContract(contract, what));
+        } else if (ofTasks % 16 < 14) {
+            int what = ofTasks % 16;
+            Check.is(told + "ofTask " + ofTasks / 16 + " " + what, x.ofTask(ofTasks / 16, what), y.ofTask(ofTasks / 16, what));
+        } else if (ofTasks % 16 == 14) {
+            Check.is(told + "due " + ofTasks / 16, x.due(ofTasks / 16), y.due(ofTasks / 16));
+        } else {
+            Check.is(told + "money " + ofTasks / 16, x.money(ofTasks / 16), y.money(ofTasks / 16));
         }
     }
 }
